@@ -164,6 +164,9 @@ public final class WhatIfTest {
         IceField y = Due.read("090/990/990");
         y.sawAround(3, 1, 1);
         asks("20: the cell of the way over", y, 1, y::barredBy);
+        IceField z = Due.read("99/09");
+        z.sawAround(1, 1, 1);
+        asks("20: the first cell of all", z, 0, z::barredBy);
     }
 
     private static void harvest() {
