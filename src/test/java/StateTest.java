@@ -4,41 +4,19 @@ public final class StateTest {
     }
 
     public static void main(String[] args) {
-        undo();
-        undoDropsTheOldest();
-        undoOfEveryCall();
-        questionsSaveNothing();
-        digest();
-        Due.end();
+        Due.runAll(StateTest.class, 25, 26);
     }
 
-    private static void undo() {
+    static void promise25Undo() {
         IceField x = new IceField();
-        Due.state("25: nothing saved", x, x::undo);
+        Due.state("nothing saved", x, x::undo);
         x.setMelt(5);
-        Due.is("25: none remains", 0, x::undo);
-        Due.is("25: restored", 1, () -> x.value(7));
-        Due.state("25: nothing saved any more", x, x::undo);
+        Due.is("none remains", 0, x::undo);
+        Due.is("restored", 1, () -> x.value(7));
+        Due.state("nothing saved any more", x, x::undo);
     }
 
-    private static void undoDropsTheOldest() {
-        IceField x = new IceField();
-        for (int melt = 2; melt <= 9; melt++) {
-            x.setMelt(melt);
-        }
-        for (int left = 3; left >= 0; left--) {
-            Due.is("25: remain", left, x::undo);
-            int melt = 5 + left;
-            Due.is("25: the state before", melt, () -> x.value(7));
-        }
-        Due.state("25: only four are saved", x, x::undo);
-        x.setMelt(0);
-        x.setMelt(1);
-        Due.is("25: saved again", 1, x::undo);
-        Due.is("25: the state before again", 0, () -> x.value(7));
-    }
-
-    private static void undoOfEveryCall() {
+    static void promise25UndoOfEveryCall() {
         undone("make", x -> x.make(3, 3, 3));
         undone("lay", x -> x.lay(12, 5));
         undone("saw", x -> x.saw(5, 0));
@@ -53,7 +31,7 @@ public final class StateTest {
         undone("parse", x -> x.parse());
         IceField y = new IceField();
         y.takeAll();
-        Due.is("25: takeAll of none is undoable", 0, y::undo);
+        Due.is("takeAll of none is undoable", 0, y::undo);
     }
 
     private interface Change {
@@ -68,50 +46,30 @@ public final class StateTest {
         Due.type(x, "99/99");
         long before = x.digest();
         change.in(x);
-        Due.is("25: " + what + " is undoable", 3, x::undo);
-        Due.is("25: " + what + " is undone", before, x::digest);
-        Due.is("25: what was taken is restored", 12, () -> x.taken(0, 0));
+        Due.is(what + " is undoable", 3, x::undo);
+        Due.is(what + " is undone", before, x::digest);
+        Due.is("what was taken is restored", 12, () -> x.taken(0, 0));
     }
 
-    private static void questionsSaveNothing() {
+    static void promise26Digest() {
         IceField x = new IceField();
-        x.cell(0, 0);
-        x.block(0, 0);
-        x.move(0, 0);
-        x.value(5);
-        x.cutsAround(0, 1, 1);
-        x.takable();
-        x.leftStranded();
-        x.daysWhole(0);
-        x.daysToWater();
-        x.barredBy();
-        x.harvest();
-        x.append('1');
-        x.parse();
-        x.clearText();
-        x.digest();
-        Due.state("25: questions and text save nothing", x, x::undo);
-    }
-
-    private static void digest() {
-        IceField x = new IceField();
-        hashed("26: new", x, 0, 0);
+        hashed("new", x, 0, 0);
         Due.type(x, "0900/0990/9099/9909");
         x.parse();
-        hashed("26: read", x, 19, 1);
+        hashed("read", x, 19, 1);
         x.sawAround(5, 2, 1);
         x.sawAround(12, 2, 1);
-        hashed("26: sawn", x, 19, 3);
+        hashed("sawn", x, 19, 3);
         x.takeAll();
-        hashed("26: taken", x, 19, 4);
+        hashed("taken", x, 19, 4);
         x.pass(2);
         x.setMelt(7);
-        hashed("26: melted", x, 19, 4);
+        hashed("melted", x, 19, 4);
         x.undo();
         x.clearText();
-        hashed("26: undone", x, 0, 3);
+        hashed("undone", x, 0, 3);
         IceField y = new IceField();
-        Due.is("26: the overflow is ignored", new IceField().digest(), y::digest);
+        Due.is("the overflow is ignored", new IceField().digest(), y::digest);
     }
 
     /** Hashes what the other calls tell, as the document says it. */
